@@ -26,7 +26,7 @@ public final class ShaclSteps {
     private static final int TYPE = 0;
     private static final int BELOW = 1;
     private static final int NO_PATH = -1;
-    private static final int WORST_SEVERITY = 2;
+    private static final int FIRST_SEVERITY = 2;
 
     private static final int ALL_TERMS = 0xFFFFFFFF;
     private static final int ALL_NODES = 0x000FFFFF;
@@ -316,7 +316,7 @@ public final class ShaclSteps {
     }
 
     private static boolean holdsBit(int bits, int x) {
-        return (bits >>> x & 1) != 0;
+        return ((bits >>> x) & 1) != 0;
     }
 
     /** The i-th term of a set, by numbers; NO when the set has not so many. */
@@ -334,7 +334,7 @@ public final class ShaclSteps {
     }
 
     private static int literalsWithNumber(int n) {
-        return 3 << NODES + 2 * n;
+        return 3 << (NODES + 2 * n);
     }
 
     private static int literalsBetween(int least, int most) {
@@ -423,12 +423,10 @@ public final class ShaclSteps {
 
         // The two loops below call nothing, as they stand at the end of the longest chains of calls.
 
-        private int termsAheadOfAny(int nodes, int p) {
+        private int termsLedTo(int p) {
             int terms = 0;
             for (int x = 0; x < NODES && p >= 0 && p < PREDICATES; x++) {
-                if ((nodes >>> x & 1) != 0) {
-                    terms |= ahead[x * PREDICATES + p];
-                }
+                terms |= ahead[x * PREDICATES + p];
             }
             return terms;
         }
@@ -436,7 +434,7 @@ public final class ShaclSteps {
         private int termsBackOfAny(int terms, int p) {
             int nodes = 0;
             for (int x = 0; x < TERMS && p >= 0 && p < PREDICATES; x++) {
-                if ((terms >>> x & 1) != 0) {
+                if (((terms >>> x) & 1) != 0) {
                     nodes |= back[x * PREDICATES + p];
                 }
             }
@@ -446,9 +444,11 @@ public final class ShaclSteps {
         /** The terms that the nodes lead to by a predicate that is not among those allowed. */
         private int termsAheadBut(int nodes, int allowed) {
             int terms = 0;
-            for (int p = 0; p < PREDICATES; p++) {
-                if (!holdsBit(allowed, p)) {
-                    terms |= termsAheadOfAny(nodes, p);
+            for (int x = 0; x < NODES; x++) {
+                if (holdsBit(nodes, x)) {
+                    for (int p = 0; p < PREDICATES; p++) {
+                        terms |= holdsBit(allowed, p) ? 0 : ahead[x * PREDICATES + p];
+                    }
                 }
             }
             return terms;
@@ -483,7 +483,7 @@ public final class ShaclSteps {
             int shape = number;
             if (shape < MAX_SHAPES) {
                 path[shape] = newPath;
-                severity[shape] = WORST_SEVERITY;
+                severity[shape] = FIRST_SEVERITY;
                 number++;
             }
             return shape;
@@ -494,7 +494,7 @@ public final class ShaclSteps {
         }
 
         private int severityOf(int shape) {
-            return has(shape) ? severity[shape] : WORST_SEVERITY;
+            return has(shape) ? severity[shape] : FIRST_SEVERITY;
         }
 
         private boolean leads(int from, int to) {
@@ -505,7 +505,7 @@ public final class ShaclSteps {
             if (!has(to)) {
                 return;
             }
-            int gained = further[to] | 1 << to;
+            int gained = further[to] | (1 << to);
             for (int shape = 0; shape < number; shape++) {
                 if (leads(shape, from)) {
                     further[shape] |= gained;
@@ -553,7 +553,7 @@ public final class ShaclSteps {
                 case FOR_LEADING:
                     return triples.termsBackOfAny(ALL_TERMS, a);
                 default:
-                    return triples.termsAheadOfAny(ALL_NODES, a);
+                    return triples.termsLedTo(a);
             }
         }
     }
@@ -762,7 +762,7 @@ public final class ShaclSteps {
                 return;
             }
             for (int value = -1; value < TERMS; value++) {
-                if ((found >>> value + 1 & 1L) != 0L) {
+                if (((found >>> (value + 1)) & 1L) != 0L) {
                     tell(focus, shape, c, value);
                 }
             }

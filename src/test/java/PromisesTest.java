@@ -264,6 +264,10 @@ public final class PromisesTest {
         due.is("constraint: full, naming a shape", x.constraint(0, 15, 1, 0), FULL);
         due.is("constraint: a refused one leads nowhere", x.constraint(1, 15, 0, 0), FULL);
         due.is("constraint: forty", x.count(3), 40);
+        x.target(0, 0, 31);
+        x.target(1, 0, 0);
+        due.is("constraint: forty that hold", x.run(), 0);
+        due.is("constraint: forty that hold, fits", x.fits(31, 1), 1);
     }
 
     private static void isOf() {
@@ -340,6 +344,19 @@ public final class PromisesTest {
         y.triple(0, 4, 5);
         y.target(0, 2, 4);
         foci("focus: leads from is not leads to", y, 0, 0);
+        y.shape(-1);
+        y.target(1, 3, 4);
+        foci("focus: leads to is not leads from", y, 1, 5);
+        y.shape(-1);
+        y.triple(19, 7, 19);
+        y.target(2, 2, 7);
+        y.target(2, 3, 7);
+        foci("focus: from and to itself", y, 2, 19);
+        y.shape(-1);
+        y.triple(18, 0, 30);
+        y.target(3, 2, 0);
+        y.target(3, 3, 0);
+        foci("focus: from and to by predicate 0", y, 3, 18, 30);
     }
 
     private static void foci(String what, ShaclSteps x, int shape, int... terms) {
@@ -367,12 +384,19 @@ public final class PromisesTest {
         due.is("value: second back", x.value(31, 2, 1), 19);
         due.is("value: no third back", x.value(31, 2, 2), NO);
         due.is("value: a literal leads nowhere", x.value(31, 1, 0), NO);
+        x.shape(0);
+        x.shape(8);
+        x.triple(2, 0, 3);
+        due.is("value: ahead by 0", x.value(2, 3, 0), 3);
+        due.is("value: nothing ahead by 0", x.value(3, 3, 0), NO);
+        due.is("value: back by 0", x.value(3, 4, 0), 2);
+        due.is("value: nothing back by 0", x.value(2, 4, 0), NO);
         due.is("value: i below 0", x.value(4, 1, -1), NO);
         due.is("value: term 32", x.value(32, 1, 0), BAD);
         due.is("value: term -1", x.value(-1, 1, 0), BAD);
-        due.is("value: shape 3", x.value(4, 3, 0), BAD);
+        due.is("value: shape 5", x.value(4, 5, 0), BAD);
         due.is("value: shape -1", x.value(4, -1, 0), BAD);
-        due.is("value: bad before i", x.value(4, 3, -1), BAD);
+        due.is("value: bad before i", x.value(4, 5, -1), BAD);
         for (int far : FAR) {
             due.is("value: far term", x.value(far, 1, 0), BAD);
             due.is("value: far shape", x.value(4, far, 0), BAD);
@@ -467,6 +491,14 @@ public final class PromisesTest {
         less.triple(0, 3, 7);
         faults("less than a node", less, 0, 5, 20, 21, 22, 23, 24, 31);
 
+        ShaclSteps first = withValues(0, 20);
+        first.constraint(0, 8, 3, 0);
+        faults("node 0 is less than nothing", first, 0, 0);
+        first.triple(0, 3, 31);
+        faults("node 0 is not less than 5", first, 0, 0);
+        first.triple(0, 3, 0);
+        faults("nothing is less than node 0", first, 0, 0, 20);
+
         ShaclSteps no = withValues();
         no.triple(0, 3, 7);
         no.constraint(0, 8, 3, 0);
@@ -532,6 +564,11 @@ public final class PromisesTest {
         z.triple(1, 5, 31);
         z.constraint(0, 10, 0xFFFFFF00, 0);
         faults("bits beyond the predicates tell nothing", z, 0, 31);
+        z = withValues(0, 19, 20);
+        z.triple(19, 7, 31);
+        z.triple(18, 7, 30);
+        z.constraint(0, 10, 0, 0);
+        faults("closed, first and last node", z, 0, 0, 19, 20, 31);
         z = withValues(1);
         z.triple(1, 5, 31);
         z.constraint(0, 10, -1, 0);
