@@ -323,14 +323,14 @@ public final class PromisesTest {
         x.triple(8, 4, 20);
         x.triple(8, 4, 1);
         x.target(0, 0, 31);
-        foci("focus: a term, be it led to or not", x, 0, 31);
+        due.foci("focus: a term, be it led to or not", x, 0, 31);
         x.target(0, 1, 2);
-        foci("focus: a class too", x, 0, 6, 7, 31);
+        due.foci("focus: a class too", x, 0, 6, 7, 31);
         x.target(0, 2, 4);
-        foci("focus: all that 4 leads from too", x, 0, 6, 7, 8, 9, 31);
+        due.foci("focus: all that 4 leads from too", x, 0, 6, 7, 8, 9, 31);
         x.target(0, 3, 4);
-        foci("focus: all that 4 leads to too, each once", x, 0, 1, 6, 7, 8, 9, 20, 31);
-        foci("focus: targets of another shape", x, 1);
+        due.foci("focus: all that 4 leads to too, each once", x, 0, 1, 6, 7, 8, 9, 20, 31);
+        due.foci("focus: targets of another shape", x, 1);
         due.is("focus: i below 0", x.focus(0, -1), NO);
         due.is("focus: shape 2", x.focus(2, 0), BAD);
         due.is("focus: shape -1", x.focus(-1, 0), BAD);
@@ -343,27 +343,20 @@ public final class PromisesTest {
         y.shape(-1);
         y.triple(0, 4, 5);
         y.target(0, 2, 4);
-        foci("focus: leads from is not leads to", y, 0, 0);
+        due.foci("focus: leads from is not leads to", y, 0, 0);
         y.shape(-1);
         y.target(1, 3, 4);
-        foci("focus: leads to is not leads from", y, 1, 5);
+        due.foci("focus: leads to is not leads from", y, 1, 5);
         y.shape(-1);
         y.triple(19, 7, 19);
         y.target(2, 2, 7);
         y.target(2, 3, 7);
-        foci("focus: from and to itself", y, 2, 19);
+        due.foci("focus: from and to itself", y, 2, 19);
         y.shape(-1);
         y.triple(18, 0, 30);
         y.target(3, 2, 0);
         y.target(3, 3, 0);
-        foci("focus: from and to by predicate 0", y, 3, 18, 30);
-    }
-
-    private static void foci(String what, ShaclSteps x, int shape, int... terms) {
-        for (int i = 0; i < terms.length; i++) {
-            due.is(what, x.focus(shape, i), terms[i]);
-        }
-        due.is(what, x.focus(shape, terms.length), NO);
+        due.foci("focus: from and to by predicate 0", y, 3, 18, 30);
     }
 
     private static void value() {
@@ -404,105 +397,75 @@ public final class PromisesTest {
         }
     }
 
-    /** An object whose shape 0 has path 2 and is for node 0, which leads by 2 to the values. */
-    private static ShaclSteps withValues(int... values) {
-        ShaclSteps x = new ShaclSteps();
-        x.shape(2);
-        x.target(0, 0, 0);
-        for (int value : values) {
-            x.triple(0, 2, value);
-        }
-        return x;
-    }
-
-    /** All results are of node 0 and a constraint of shape 0, with these values. */
-    private static void faults(String what, ShaclSteps x, int constraint, int... values) {
-        due.is(what + ": run", x.run(), values.length);
-        due.is(what + ": fits", x.fits(0, 0), values.length == 0 ? 1 : 0);
-        for (int i = 0; i < values.length; i++) {
-            due.is(what + ": focus", x.result(i, 0), 0);
-            due.is(what + ": shape", x.result(i, 1), 0);
-            due.is(what + ": constraint", x.result(i, 2), constraint);
-            due.is(what + ": value", x.result(i, 3), values[i]);
-        }
-        due.is(what + ": no more", x.result(values.length, 0), NO);
-    }
-
-    private static void oneConstraint(String what, int kind, int a, int b, int[] values, int... faults) {
-        ShaclSteps x = withValues(values);
-        x.constraint(0, kind, a, b);
-        faults(what, x, 0, faults);
-    }
-
     private static void kindsThatAskOfEachValue() {
         int[] values = {0, 19, 20, 21, 26, 27, 30, 31};
-        oneConstraint("nodes", 1, 0, 0, values, 20, 21, 26, 27, 30, 31);
-        oneConstraint("literals", 1, 1, 0, values, 0, 19);
-        oneConstraint("tag 0", 1, 2, 0, values, 0, 19, 21, 27, 31);
-        oneConstraint("tag 1", 1, 3, 0, values, 0, 19, 20, 26, 30);
-        oneConstraint("numbers 0 to 3", 3, 0, 3, values, 0, 19, 30, 31);
-        oneConstraint("numbers 3 to 3", 3, 3, 3, values, 0, 19, 20, 21, 30, 31);
-        oneConstraint("numbers 4 to 5", 3, 4, 5, values, 0, 19, 20, 21, 26, 27);
-        oneConstraint("all numbers", 3, Integer.MIN_VALUE, Integer.MAX_VALUE, values, 0, 19);
-        oneConstraint("numbers 3 to 2", 3, 3, 2, values, values);
-        oneConstraint("one of those told", 4, 1 << 31 | 1 << 20 | 1, 0, values, 19, 21, 26, 27, 30);
-        oneConstraint("one of none", 4, 0, 0, values, values);
-        oneConstraint("one of all", 4, -1, 0, values);
-        oneConstraint("nothing is no node", 1, 0, 0, new int[0]);
-        ShaclSteps x = withValues(3, 4, 5, 25);
+        due.oneConstraint("nodes", 1, 0, 0, values, 20, 21, 26, 27, 30, 31);
+        due.oneConstraint("literals", 1, 1, 0, values, 0, 19);
+        due.oneConstraint("tag 0", 1, 2, 0, values, 0, 19, 21, 27, 31);
+        due.oneConstraint("tag 1", 1, 3, 0, values, 0, 19, 20, 26, 30);
+        due.oneConstraint("numbers 0 to 3", 3, 0, 3, values, 0, 19, 30, 31);
+        due.oneConstraint("numbers 3 to 3", 3, 3, 3, values, 0, 19, 20, 21, 30, 31);
+        due.oneConstraint("numbers 4 to 5", 3, 4, 5, values, 0, 19, 20, 21, 26, 27);
+        due.oneConstraint("all numbers", 3, Integer.MIN_VALUE, Integer.MAX_VALUE, values, 0, 19);
+        due.oneConstraint("numbers 3 to 2", 3, 3, 2, values, values);
+        due.oneConstraint("one of those told", 4, 1 << 31 | 1 << 20 | 1, 0, values, 19, 21, 26, 27, 30);
+        due.oneConstraint("one of none", 4, 0, 0, values, values);
+        due.oneConstraint("one of all", 4, -1, 0, values);
+        due.oneConstraint("nothing is no node", 1, 0, 0, new int[0]);
+        ShaclSteps x = Made.withValues(3, 4, 5, 25);
         x.triple(3, 0, 10);
         x.triple(4, 0, 11);
         x.triple(11, 1, 10);
         x.triple(5, 0, 12);
         x.constraint(0, 0, 10, 0);
-        faults("of a class", x, 0, 5, 25);
+        due.faults("of a class", x, 0, 5, 25);
     }
 
     private static void kindsThatCompareWithAPredicate() {
-        ShaclSteps same = withValues(1, 2, 20);
+        ShaclSteps same = Made.withValues(1, 2, 20);
         same.triple(0, 3, 2);
         same.triple(0, 3, 31);
         same.triple(1, 3, 1);
         same.constraint(0, 6, 3, 0);
-        faults("just those", same, 0, 1, 20, 31);
+        due.faults("just those", same, 0, 1, 20, 31);
         same.triple(0, 3, 1);
         same.triple(0, 3, 20);
         same.triple(0, 2, 31);
-        faults("just those, now so", same, 0);
+        due.faults("just those, now so", same, 0);
 
-        ShaclSteps none = withValues(1, 2, 20, 31);
+        ShaclSteps none = Made.withValues(1, 2, 20, 31);
         none.triple(0, 3, 2);
         none.triple(0, 3, 31);
         none.triple(0, 3, 30);
         none.triple(1, 3, 20);
         none.constraint(0, 7, 3, 0);
-        faults("none of those", none, 0, 2, 31);
+        due.faults("none of those", none, 0, 2, 31);
 
-        ShaclSteps less = withValues(5, 20, 21, 22, 23, 24, 31);
+        ShaclSteps less = Made.withValues(5, 20, 21, 22, 23, 24, 31);
         less.constraint(0, 8, 3, 0);
-        faults("less than nothing", less, 0, 5);
+        due.faults("less than nothing", less, 0, 5);
         less.triple(0, 3, 27);
-        faults("less than 3", less, 0, 5, 31);
+        due.faults("less than 3", less, 0, 5, 31);
         less.triple(0, 3, 22);
-        faults("less than 3 and 1", less, 0, 5, 22, 23, 24, 31);
+        due.faults("less than 3 and 1", less, 0, 5, 22, 23, 24, 31);
         less.drop(0, 3, 22);
         less.triple(0, 3, 23);
-        faults("less than 3 and 1 with the other tag", less, 0, 5, 22, 23, 24, 31);
+        due.faults("less than 3 and 1 with the other tag", less, 0, 5, 22, 23, 24, 31);
         less.triple(0, 3, 7);
-        faults("less than a node", less, 0, 5, 20, 21, 22, 23, 24, 31);
+        due.faults("less than a node", less, 0, 5, 20, 21, 22, 23, 24, 31);
 
-        ShaclSteps first = withValues(0, 20);
+        ShaclSteps first = Made.withValues(0, 20);
         first.constraint(0, 8, 3, 0);
-        faults("node 0 is less than nothing", first, 0, 0);
+        due.faults("node 0 is less than nothing", first, 0, 0);
         first.triple(0, 3, 31);
-        faults("node 0 is not less than 5", first, 0, 0);
+        due.faults("node 0 is not less than 5", first, 0, 0);
         first.triple(0, 3, 0);
-        faults("nothing is less than node 0", first, 0, 0, 20);
+        due.faults("nothing is less than node 0", first, 0, 0, 20);
 
-        ShaclSteps no = withValues();
+        ShaclSteps no = Made.withValues();
         no.triple(0, 3, 7);
         no.constraint(0, 8, 3, 0);
-        faults("no value is less than a node", no, 0);
+        due.faults("no value is less than a node", no, 0);
 
         ShaclSteps literal = new ShaclSteps();
         literal.shape(-1);
@@ -518,34 +481,34 @@ public final class PromisesTest {
 
     private static void kindsThatCount() {
         int[] three = {1, 20, 21};
-        oneConstraint("from 3 to 3", 2, 3, 3, three);
-        oneConstraint("from 0 to 2", 2, 0, 2, three, -1);
-        oneConstraint("from 4 to 9", 2, 4, 9, three, -1);
-        oneConstraint("from 3 to 2", 2, 3, 2, three, -1);
-        oneConstraint("from 0 to 0", 2, 0, 0, new int[0]);
-        oneConstraint("from 1 on", 2, 1, Integer.MAX_VALUE, new int[0], -1);
-        oneConstraint("20 is one", 5, 20, 0, three);
-        oneConstraint("31 is not one", 5, 31, 0, three, -1);
-        oneConstraint("0 is not one", 5, 0, 0, three, -1);
+        due.oneConstraint("from 3 to 3", 2, 3, 3, three);
+        due.oneConstraint("from 0 to 2", 2, 0, 2, three, -1);
+        due.oneConstraint("from 4 to 9", 2, 4, 9, three, -1);
+        due.oneConstraint("from 3 to 2", 2, 3, 2, three, -1);
+        due.oneConstraint("from 0 to 0", 2, 0, 0, new int[0]);
+        due.oneConstraint("from 1 on", 2, 1, Integer.MAX_VALUE, new int[0], -1);
+        due.oneConstraint("20 is one", 5, 20, 0, three);
+        due.oneConstraint("31 is not one", 5, 31, 0, three, -1);
+        due.oneConstraint("0 is not one", 5, 0, 0, three, -1);
         int[][] fitting = {{0x22, 0}, {0x03, 0}, {0x0F, 0}, {0x33, 1}, {0x01, 1}, {0x21, 1}, {0x10, 1}, {0xFF, 1}};
         for (int[] row : fitting) {
-            ShaclSteps x = withValues(three);
+            ShaclSteps x = Made.withValues(three);
             x.shape(-1);
             x.constraint(1, 1, 1, 0);
             x.constraint(0, 17, 1, row[0]);
-            faults("two literals for " + row[0], x, 1, row[1] == 0 ? new int[0] : new int[] {-1});
+            due.faults("two literals for " + row[0], x, 1, row[1] == 0 ? new int[0] : new int[] {-1});
         }
     }
 
     private static void tags() {
-        oneConstraint("one of each tag", 9, 0, 0, new int[] {0, 1, 20, 31});
-        oneConstraint("two of tag 0", 9, 0, 0, new int[] {22, 25, 30}, 22);
-        oneConstraint("three of tag 1", 9, 0, 0, new int[] {20, 23, 29, 31}, 23);
-        oneConstraint("both tags twice", 9, 0, 0, new int[] {2, 21, 24, 29, 28}, 21, 24);
+        due.oneConstraint("one of each tag", 9, 0, 0, new int[] {0, 1, 20, 31});
+        due.oneConstraint("two of tag 0", 9, 0, 0, new int[] {22, 25, 30}, 22);
+        due.oneConstraint("three of tag 1", 9, 0, 0, new int[] {20, 23, 29, 31}, 23);
+        due.oneConstraint("both tags twice", 9, 0, 0, new int[] {2, 21, 24, 29, 28}, 21, 24);
     }
 
     private static void closed() {
-        ShaclSteps x = withValues(1, 3, 31);
+        ShaclSteps x = Made.withValues(1, 3, 31);
         x.triple(0, 4, 9);
         x.triple(1, 5, 31);
         x.triple(1, 6, 30);
@@ -553,26 +516,26 @@ public final class PromisesTest {
         x.triple(3, 7, 2);
         x.triple(3, 0, 4);
         x.constraint(0, 10, 0, 0);
-        faults("closed but for none", x, 0, 2, 4, 30, 31);
-        ShaclSteps y = withValues(1, 3);
+        due.faults("closed but for none", x, 0, 2, 4, 30, 31);
+        ShaclSteps y = Made.withValues(1, 3);
         y.triple(1, 5, 31);
         y.triple(3, 7, 2);
         y.triple(3, 0, 4);
         y.constraint(0, 10, 1 << 7 | 1, 0);
-        faults("closed but for 0 and 7", y, 0, 31);
-        ShaclSteps z = withValues(1);
+        due.faults("closed but for 0 and 7", y, 0, 31);
+        ShaclSteps z = Made.withValues(1);
         z.triple(1, 5, 31);
         z.constraint(0, 10, 0xFFFFFF00, 0);
-        faults("bits beyond the predicates tell nothing", z, 0, 31);
-        z = withValues(0, 19, 20);
+        due.faults("bits beyond the predicates tell nothing", z, 0, 31);
+        z = Made.withValues(0, 19, 20);
         z.triple(19, 7, 31);
         z.triple(18, 7, 30);
         z.constraint(0, 10, 0, 0);
-        faults("closed, first and last node", z, 0, 0, 19, 20, 31);
-        z = withValues(1);
+        due.faults("closed, first and last node", z, 0, 0, 19, 20, 31);
+        z = Made.withValues(1);
         z.triple(1, 5, 31);
         z.constraint(0, 10, -1, 0);
-        faults("closed but for all", z, 0);
+        due.faults("closed but for all", z, 0);
     }
 
     private static void kindsThatNameShapes() {
@@ -580,7 +543,7 @@ public final class PromisesTest {
             {11, 20, 21}, {12, 1, 21, 22}, {13, 1}, {14, 1, 20}, {15, 1, 22},
         };
         for (int[] row : faults) {
-            ShaclSteps x = withValues(1, 20, 21, 22);
+            ShaclSteps x = Made.withValues(1, 20, 21, 22);
             x.shape(-1);
             x.shape(-1);
             x.constraint(1, 3, 0, 0);
@@ -588,18 +551,18 @@ public final class PromisesTest {
             x.constraint(0, row[0], 1, 2);
             int[] values = new int[row.length - 1];
             System.arraycopy(row, 1, values, 0, values.length);
-            faults("kind " + row[0], x, 2, values);
+            due.faults("kind " + row[0], x, 2, values);
         }
-        ShaclSteps x = withValues(1, 20);
+        ShaclSteps x = Made.withValues(1, 20);
         x.shape(-1);
         x.constraint(0, 15, 1, 0);
-        faults("all fit a shape without constraints", x, 0);
+        due.faults("all fit a shape without constraints", x, 0);
         x.constraint(0, 11, 1, 0);
-        faults("so none may be there", x, 1, 1, 20);
+        due.faults("so none may be there", x, 1, 1, 20);
     }
 
     private static void toldByShape() {
-        ShaclSteps x = withValues(1, 3, 25);
+        ShaclSteps x = Made.withValues(1, 3, 25);
         x.shape(4);
         x.shape(-1);
         x.severity(1, 0);
@@ -611,24 +574,24 @@ public final class PromisesTest {
         x.constraint(1, 16, 2, 0);
         x.constraint(2, 1, 1, 0);
         int[][] rows = {{3, 1, 1, -1}, {8, 2, 3, 8}, {9, 2, 3, 9}, {25, 1, 1, -1}};
-        results("told by the shape", x, rows);
+        due.results("told by the shape", x, rows);
         due.is("told by the shape: severity of that shape", x.worst(0), 2);
         due.is("told by the shape: severity of the other shape", x.worst(2), 2);
         due.is("told by the shape: fits", x.fits(0, 0), 0);
         x.target(1, 0, 3);
         x.target(2, 0, 9);
-        results("told by the shape and by its own targets: once", x, rows);
+        due.results("told by the shape and by its own targets: once", x, rows);
         x.constraint(0, 15, 1, 0);
-        results("told by this shape too", x, new int[][] {
+        due.results("told by this shape too", x, new int[][] {
             {0, 0, 4, 3}, {0, 0, 4, 25}, {3, 1, 1, -1}, {8, 2, 3, 8}, {9, 2, 3, 9}, {25, 1, 1, -1}});
 
-        ShaclSteps y = withValues(1);
+        ShaclSteps y = Made.withValues(1);
         y.shape(-1);
         y.shape(-1);
         y.constraint(2, 1, 1, 0);
         y.constraint(1, 16, 2, 0);
         y.constraint(0, 15, 1, 0);
-        results("what only has to fit tells nothing itself", y, new int[][] {{0, 0, 2, 1}});
+        due.results("what only has to fit tells nothing itself", y, new int[][] {{0, 0, 2, 1}});
 
         ShaclSteps up = new ShaclSteps();
         for (int i = 0; i < 12; i++) {
@@ -639,21 +602,11 @@ public final class PromisesTest {
             up.constraint(i, 16, i - 1, 0);
         }
         up.target(11, 0, 7);
-        results("a long way down", up, new int[][] {{7, 0, 0, 7}});
+        due.results("a long way down", up, new int[][] {{7, 0, 0, 7}});
         for (int i = 0; i < 12; i++) {
             due.is("a long way down: fits", up.fits(7, i), 0);
             due.is("a long way down: fits", up.fits(27, i), 1);
         }
-    }
-
-    private static void results(String what, ShaclSteps x, int[][] rows) {
-        due.is(what + ": run", x.run(), rows.length);
-        for (int i = 0; i < rows.length; i++) {
-            for (int part = 0; part < 4; part++) {
-                due.is(what + ": result " + i + ", " + part, x.result(i, part), rows[i][part]);
-            }
-        }
-        due.is(what + ": no more", x.result(rows.length, 0), NO);
     }
 
     private static void fits() {
@@ -690,7 +643,7 @@ public final class PromisesTest {
         x.target(1, 0, 5);
         x.target(0, 0, 5);
         x.target(0, 0, 2);
-        results("order", x, new int[][] {
+        due.results("order", x, new int[][] {
             {2, 0, 1, 2}, {2, 0, 3, -1},
             {5, 0, 1, 5}, {5, 0, 3, -1}, {5, 1, 0, -1}, {5, 1, 2, 3}, {5, 1, 2, 21}});
         due.is("result: what 4", x.result(0, 4), BAD);
@@ -703,24 +656,8 @@ public final class PromisesTest {
         }
     }
 
-    /** Ten terms with values that are one of none: 25 results for each of them. */
-    private static ShaclSteps with250Results() {
-        ShaclSteps x = new ShaclSteps();
-        x.shape(2);
-        for (int s = 0; s < 10; s++) {
-            x.target(0, 0, s);
-            for (int o = 0; o < 5; o++) {
-                x.triple(s, 2, 20 + o);
-            }
-        }
-        for (int c = 0; c < 5; c++) {
-            x.constraint(0, 4, 0, 0);
-        }
-        return x;
-    }
-
     private static void large() {
-        ShaclSteps x = with250Results();
+        ShaclSteps x = Made.with250Results();
         due.is("large: 250 are not", x.run(), 250);
         due.is("large: last of 250, focus", x.result(249, 0), 9);
         due.is("large: last of 250, constraint", x.result(249, 2), 4);
@@ -742,7 +679,7 @@ public final class PromisesTest {
         x.drop(9, 2, 24);
         due.is("large: no longer", x.run(), 246);
         due.is("large: no longer, result", x.result(245, 0), 9);
-        ShaclSteps y = with250Results();
+        ShaclSteps y = Made.with250Results();
         y.shape(-1);
         y.constraint(1, 16, 0, 0);
         y.target(1, 2, 2);

@@ -58,6 +58,11 @@ public final class RulesTest {
                     Modifier.isStatic(modifiers) && !Modifier.isPublic(modifiers) && !Modifier.isProtected(modifiers));
             long fieldsOfIt = Arrays.stream(inside.getDeclaredFields()).filter(f -> !Modifier.isStatic(f.getModifiers())).count();
             due.holds(inside + " has at most twenty fields", fieldsOfIt <= 20);
+            for (Method m : inside.getDeclaredMethods()) {
+                due.holds("method inside with a public name: " + m.getName(),
+                        FACE.stream().noneMatch(f -> f.startsWith(m.getName() + " ")));
+                due.holds(m.getName() + " has at most seven parameters", m.getParameterCount() <= 7);
+            }
         }
     }
 
