@@ -33,6 +33,7 @@ final class BoundariesOfKinds {
         fitsJustOne();
         eachFits();
         toldByThatShape();
+        toldOfTheFirstAndLastTerm();
         toldThroughAllTwelve();
         toldByThatShapeForFittingOnes();
         howManyFit();
@@ -323,6 +324,17 @@ final class BoundariesOfKinds {
         x.constraint(2, 5, 21, 0);
         due.results("all results of it", x, new int[][] {
             {0, 2, 3, -1}, {20, 2, 3, -1}, {21, 2, 1, 21}, {31, 2, 1, 31}, {31, 2, 3, -1}});
+    }
+
+    private void toldOfTheFirstAndLastTerm() {
+        due.sentence(9, "16: all results of shape a for each value (with that as FOCUS). (terms 0 and 31)");
+        ShaclSteps x = Made.withShapes(2, -1);
+        x.constraint(0, 16, 1, 0);
+        x.constraint(1, 4, 0, 0);
+        x.target(0, 0, 31);
+        due.results("term 31", x, new int[][] {{31, 1, 1, 31}});
+        x.target(0, 0, 0);
+        due.results("term 0 too", x, new int[][] {{0, 1, 1, 0}, {31, 1, 1, 31}});
     }
 
     private void toldThroughAllTwelve() {
